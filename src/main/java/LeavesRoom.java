@@ -728,14 +728,9 @@ public final class LeavesRoom {
             if (guest >= SEATS || free < 0) {
                 return NONE;
             }
+            // all else beyond size is still as at first: GUESTS never go, and an IMAGE keeps that, too
             kind[guest] = itsKind;
             v[guest] = itsV;
-            used[guest] = 0;
-            empty[guest] = false;
-            gone[guest] = false;
-            for (int part = 0; part < PARTS; part++) {
-                rows[guest * PARTS + part] = 0;
-            }
             place(guest, free);
             size++;
             reckon();
@@ -1113,20 +1108,8 @@ public final class LeavesRoom {
 
         private boolean isFactor(int nested) {
             int sign = next();
-            if ((sign == '(' || sign == '!') && nested >= MOST_NESTED) {
-                return false;
-            }
-            if (sign == '(') {
-                at++;
-                return isEither(nested + 1) && isSign(')');
-            }
-            if (sign == '!') {
-                at++;
-                if (!isFactor(nested + 1)) {
-                    return false;
-                }
-                house.addStep(House.NOT);
-                return true;
+            if (sign == '(' || sign == '!') {
+                return nested < MOST_NESTED && isNest(sign, nested + 1);
             }
             int fact = factOf(sign);
             if (fact < 0) {
@@ -1142,6 +1125,19 @@ public final class LeavesRoom {
                 return false;
             }
             house.addTest(fact, compare, number);
+            return true;
+        }
+
+        /** What stands behind a ( or !, which counts among those nested. */
+        private boolean isNest(int sign, int nested) {
+            at++;
+            if (sign == '(') {
+                return isEither(nested) && isSign(')');
+            }
+            if (!isFactor(nested)) {
+                return false;
+            }
+            house.addStep(House.NOT);
             return true;
         }
 
@@ -1231,22 +1227,24 @@ public final class LeavesRoom {
         /** Goes as deep as there are GUESTS; the rows come in their order, so that the first of several stays. */
         private void placeFrom(int guest) {
             if (guest >= table.size) {
-                weigh();
+                // BEST asks for no peace: there all PLACINGS are alike in it
+                weigh(table.fondOfAll(), isForPeace ? table.clashes() : 0);
                 return;
             }
             for (int s = 0; s < SEATS; s++) {
-                if (table.sitter[s] < 0) {
-                    table.place(guest, s);
-                    placeFrom(guest + 1);
-                    table.sitter[s] = -1;
-                }
+                placeOn(guest, s);
             }
         }
 
-        private void weigh() {
-            int itsFond = table.fondOfAll();
-            // BEST asks for no peace: there all PLACINGS are alike in it
-            int itsClashes = isForPeace ? table.clashes() : 0;
+        private void placeOn(int guest, int s) {
+            if (table.sitter[s] < 0) {
+                table.place(guest, s);
+                placeFrom(guest + 1);
+                table.sitter[s] = -1;
+            }
+        }
+
+        private void weigh(int itsFond, int itsClashes) {
             boolean isBetter = itsClashes < clashes || itsClashes == clashes && itsFond > fond;
             if (isFirst || isBetter) {
                 isFirst = false;

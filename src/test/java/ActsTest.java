@@ -53,6 +53,7 @@ public final class ActsTest {
     private static void told() {
         LeavesRoom x = Check.room(6, 2, 6, 9);
         act(x, 0, SIPS, 5, 5 ^ 2, 71, 10);
+        act(x, 0, SIPS, 7, 5, 71, 10);
         act(x, 0, CHATS, 5, 7 - 2 + 2, 70, 11, 71, 10, 10);
         act(x, 0, TELLS, 5, 14 + 3, 40, 12, 70, 11, 71, 10, 10, 70, 11, 71, 10, 10);
         act(x, 1, SIPS, 5, 6 ^ 9, 71, 10);

@@ -119,6 +119,11 @@ public final class GuestsTest {
         Check.due("a SISTER by a TOLD one", sisters.of(0, 7), 2 - 3);
         Check.due("a TOLD one by a SISTER and a GUEST", sisters.of(1, 7), 4 - 4);
         Check.due("a GUEST by sisters", sisters.of(2, 7), 4);
+        LeavesRoom others = Check.room(3, 3, 1, 8, 3, 3, 5, 8, 6, 4, 2, 8);
+        int[] due2 = {4, 2, 4, 4, 4, 4};
+        for (int i = 0; i < 6; i++) {
+            Check.due("nobody is vexed but SISTERS by SISTERS: " + i, others.of(i, 7), due2[i]);
+        }
         sisters.sit(2, 5);
         sisters.sit(3, 2);
         Check.due("a TOLD one by two SISTERS", sisters.of(1, 7), 4 - 8);

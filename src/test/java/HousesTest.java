@@ -37,6 +37,7 @@ public final class HousesTest {
         fault("b", 1);
         fault("bear", 4);
         fault("bears", 4);
+        fault("bear1 p=1", 4);
         fault("bear  1 p=1", 5);
         fault("bear p", 5);
         fault("bear 1", 6);
@@ -118,6 +119,8 @@ public final class HousesTest {
 
     private static void tests() {
         holds("p=2", 0, "001000");
+        holds("p<0", 0, "000000");
+        holds("p=0&p<0|p=3", 0, "000100");
         holds("p<2", 0, "110000");
         holds("p>2", 0, "000111");
         holds("q=2", 0, "010000");
@@ -153,6 +156,17 @@ public final class HousesTest {
         holds("p=0&p=1|p=2&p=2|p=3", 0, "001100");
     }
 
+    private static void nothingStaysOfAFault() {
+        LeavesRoom x = Check.room(0, 0, 0, 0);
+        for (int i = 0; i < 5; i++) {
+            Check.due("a FAULT", Check.house(x, "thirst 1;window 2;bear 3 " + "y=0|".repeat(16)), -10 - 89);
+        }
+        Check.due("house", Check.house(x, "bear 1 " + "p=3&".repeat(22) + "p=3"), 0);
+        Check.due("THIRST", x.told(1), 5);
+        Check.due("WINDOW", x.told(2), 6);
+        Check.due("likes(0, 1)", x.likes(0, 1), 2);
+    }
+
     private static void whichHolds() {
         LeavesRoom x = Check.room(0, 0, 0, 0);
         for (int h = 0; h < 6; h++) {
@@ -168,6 +182,7 @@ public final class HousesTest {
                 Check.due("count(5)", x.count(5), 0);
             }
         }
+        nothingStaysOfAFault();
         Check.due("a seventh", Check.house(x, "thirst 1"), -4);
         Check.due("THE TEXT stays", x.count(5), 8);
         Check.due("a seventh, with a FAULT", Check.house(x, "?"), -4);

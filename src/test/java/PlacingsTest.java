@@ -106,6 +106,8 @@ public final class PlacingsTest {
         LeavesRoom gone = Check.room(0, 0, 0, 0, 0, 0);
         gone.leave(1, true);
         Check.due("with one who is GONE", gone.change(), 1);
+        LeavesRoom full = Check.room(0, 0, 0, 0, 0, 0, 0, 0, 0, 0, 2, 0);
+        Check.due("of six, 0 and 5", full.change(), 5);
         Check.due("of one alone", Check.room(2, 0).change(), -5);
         Check.due("of nobody", new LeavesRoom().change(), -5);
     }

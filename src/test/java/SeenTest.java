@@ -121,6 +121,9 @@ public final class SeenTest {
     private static void mean() {
         Check.due("mean(0) of nobody", new LeavesRoom().mean(0), LeavesRoom.NO);
         Check.due("mean(1) of nobody", new LeavesRoom().mean(1), LeavesRoom.NO);
+        LeavesRoom one = Check.room(2, 0);
+        Check.due("6 by 1", one.mean(0), 6);
+        Check.due("6 by 1", one.mean(1), 1);
         LeavesRoom x = Check.room(0, 0, 0, 0, 0, 0);
         Check.due("mean(0)", x.mean(0), 8);
         Check.due("mean(1)", x.mean(1), 3);

@@ -45,6 +45,8 @@ public final class YearsTest {
         Check.due("over the ring's end", shadows.told(6), 1);
         LeavesRoom one = Check.roomUnder("shun 2 p=0;shun 3 p=2", 0, 0, 0, 0, 0, 0);
         Check.due("0 is no CLASH, -1 is", one.told(6), 1);
+        LeavesRoom back = Check.roomUnder("shun 2 p=1;shun 3 p=2", 0, 0, 0, 0, 0, 0);
+        Check.due("likewise by the other one", back.told(6), 1);
         LeavesRoom six = Check.roomUnder("shun 3 p<9", 0, 0, 0, 0, 0, 0, 0, 0, 0, 0, 0, 0);
         Check.due("six in the ring", six.told(6), 6);
     }
