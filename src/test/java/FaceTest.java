@@ -33,6 +33,10 @@ public final class FaceTest {
         constants();
         methods(c);
         for (Class<?> inside : c.getDeclaredClasses()) {
+            for (Method m : inside.getDeclaredMethods()) {
+                Check.due(inside + "'s " + m.getName() + " is named as the face's is", isOfTheFace(m.getName()) ? 1 : 0, 0);
+                Check.due(inside + "'s " + m.getName() + " takes seven at most", m.getParameterCount() <= 7 ? 1 : 0, 1);
+            }
             Check.due(inside + " is static and not public", inside.getModifiers()
                 & (Modifier.STATIC | Modifier.PUBLIC | Modifier.PROTECTED), Modifier.STATIC);
         }
@@ -71,6 +75,15 @@ public final class FaceTest {
         Constructor<?>[] made = c.getDeclaredConstructors();
         Check.due("constructors", made.length, 1);
         Check.due("the constructor", made[0].getParameterCount() + made[0].getModifiers(), Modifier.PUBLIC);
+    }
+
+    private static boolean isOfTheFace(String name) {
+        for (String call : FACE) {
+            if (call.contains(" " + name + "(")) {
+                return true;
+            }
+        }
+        return false;
     }
 
     private static boolean isOpen(Member m) {
