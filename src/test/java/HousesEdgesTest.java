@@ -64,6 +64,25 @@ public final class HousesEdgesTest {
         x.due("house thirst 8", 1).due("told(2)", 6).due("likes(0, 1)", 2);
     }
 
+    static void promise10_nothingStaysOfWhatHadAFault() {
+        Talk x = new Talk("guest(0, 0)", "guest(0, 0)");
+        String begun = "thirst 1;window 2;bear 3 " + "y=0|".repeat(12) + "p=0;shun 9 p=1;";
+        for (int i = 0; i < 3; i++) {
+            x.due("house " + begun, -10 - begun.length());
+        }
+        x.due("house bear 1 p=1", 0).due("told(1)", 5).due("told(2)", 6).due("likes(0, 1)", 2).due("likes(1, 0)", 3);
+    }
+
+    static void promise10_aByteBeyondTheHundredthIsNotThere() {
+        new Talk().due("house " + LONGEST + "|", 0);
+    }
+
+    static void promise10_theLastByteOfOneHundredCounts() {
+        Talk x = new Talk("guest(0, 0)", "guest(0, 0)").due("house " + LONGEST.substring(0, 99) + "&", -110);
+        x.due("house bear 12 " + "p=5|".repeat(22) + "p=00", 0).due("likes(0, 1)", 14).due("likes(1, 0)", 2);
+        x.due("house bear 12 " + "p=5|".repeat(22) + "p=01", 1).due("likes(0, 1)", 2).due("likes(1, 0)", 14);
+    }
+
     static void promise10_numbersGoOnBehindFaults() {
         Talk x = new Talk();
         for (int h = 0; h <= 5; h++) {

@@ -190,6 +190,14 @@ public final class PlacingsEdgesTest {
         new Talk("guest(4, 9)", "sit(0, 5)").asks("seat(0)", 0);
     }
 
+    static void promise18_byTheRowOfTheLastGuest() {
+        for (int part = 0; part <= 3; part++) {
+            Talk x = new Talk().say("guest(6, 0)", 6);
+            x.due("row(5, " + part + ", 9)", 0).asks("seat(5)", part).asks("change()", part == 1 ? -5 : 10 * part + 5)
+                .asks("best(15)", part < 2 ? part + 4 : part);
+        }
+    }
+
     static void promise18_whoSitsThereGetsItsOwn() {
         new Talk("house bear 9 q=1", "guest(0, 0)", "guest(0, 0)", "guest(0, 0)", "sit(2, 3)").asks("seat(0)", 2)
             .asks("seat(2)", 0);

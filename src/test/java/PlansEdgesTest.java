@@ -351,6 +351,30 @@ public final class PlansEdgesTest {
         x.due("where(0)", 63).due("ends(0)", 1).due("looked()", 0);
     }
 
+    static void promise30_allOfARowThatWasSeen() {
+        Talk x = new Talk("guest(4, 9)", "guest(4, 0)", "see(0, true, 1)", "image()", "see(-1, true, 0)", "see(1, false, 0)");
+        x.due("where(0)", 63).due("undo()", 2).due("where(0)", 63).due("pass(1)", 1).due("where(0)", 63);
+        Talk years = new Talk("guest(4, 9)", "see(0, false, 0)", "image()", "see(-1, true, 0)", "see(0, false, 20)");
+        years.due("where(0)", 0).due("undo()", 1).due("where(0)", 63);
+        Talk later = new Talk("guest(4, 9)", "see(0, true, 20)", "image()", "see(-1, true, 0)", "see(0, true, 0)");
+        later.due("where(0)", 0).due("undo()", 1).due("where(0)", 63);
+    }
+
+    static void promise30_theRowOfTheLastGuest() {
+        Talk x = new Talk().say("guest(6, 0)", 6);
+        for (int part = 0; part <= 3; part++) {
+            x.say("row(5, " + part + ", " + (part + 1) + ")");
+        }
+        x.due("image()", 6);
+        for (int part = 0; part <= 3; part++) {
+            x.due("row(5, " + part + ", 9)", part + 1);
+        }
+        x.due("undo()", 6).due("of(5, 7)", 4 + 2);
+        for (int part = 0; part <= 3; part++) {
+            x.due("row(5, " + part + ", 0)", part + 1);
+        }
+    }
+
     static void promise30_fullOrEmptyAsTheyWere() {
         Talk x = new Talk("guest(0, 0)").say("see(0, false, 0)", 5).say("plan(0, 0)", 10).say("book(0, 0)", 8);
         x.due("image()", 1).due("see(-1, true, 0)", 0).due("plan(-1, 0)", 0).due("book(-1, 0)", 0).due("undo()", 1);
