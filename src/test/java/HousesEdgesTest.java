@@ -67,7 +67,7 @@ public final class HousesEdgesTest {
     static void promise10_nothingStaysOfWhatHadAFault() {
         Talk x = new Talk("guest(0, 0)", "guest(0, 0)");
         String begun = "thirst 1;window 2;bear 3 " + "y=0|".repeat(12) + "p=0;shun 9 p=1;";
-        for (int i = 0; i < 3; i++) {
+        for (int i = 0; i < 5; i++) {
             x.due("house " + begun, -10 - begun.length());
         }
         x.due("house bear 1 p=1", 0).due("told(1)", 5).due("told(2)", 6).due("likes(0, 1)", 2).due("likes(1, 0)", 3);
