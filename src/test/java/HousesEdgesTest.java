@@ -388,6 +388,16 @@ public final class HousesEdgesTest {
         holds("y=00", "0, 0", "0, 0", 20, true);
     }
 
+    static void promise10_theYearMayBeAskedForAnywhere() {
+        String[] all = {"bear 3 y=1", "bear 3 y=1;window 4", "bear 3 y=1;bear 9 p=9", "bear 9 p=9;bear 3 y=1",
+            "bear 3 y=1&q<9", "bear 3 q<9&y=1", "bear 3 (y=1|p=9)", "bear 3 !(!y=1|p=9)"};
+        for (String clauses : all) {
+            Talk x = new Talk("guest(0, 0)", "guest(0, 0)", "house thirst 5;" + clauses);
+            x.due("likes(0, 1)", 2).due("soon(2)", 2).due("on(1, 10)", 5).due("on(2, 11)", 2);
+            x.due("pass(1)", 1).due("likes(0, 1)", 5).due("pass(1)", 2).due("likes(1, 0)", 2).due("told(4)", 3);
+        }
+    }
+
     static void promise10_andGoesAheadOfOr() {
         holds("p=0|p=1&p=1", "0, 0", "0, 0", 0, true);
         holds("(p=0|p=1)&p=1", "0, 0", "0, 0", 0, false);
